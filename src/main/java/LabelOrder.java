@@ -71,7 +71,8 @@ public final class LabelOrder {
     }
 
     public int order() {
-        int lines = reader.readTape();
+        int lines = reader.readLines();
+        reader.cut(0);
         if (lines != NONE) {
             now.copy(reader.draft);
             past.forget();
@@ -234,12 +235,12 @@ public final class LabelOrder {
     }
 
     public int width() {
-        return isOrder() ? now.widest(now.there) : NONE;
+        return isOrder() ? now.widest(now.there, 0) : NONE;
     }
 
     public int ideals() {
         // Each such set is told by its highest points, of which none is below another one.
-        return isOrder() ? now.antichains(now.there) : NONE;
+        return isOrder() ? now.antichains(now.there, 0) : NONE;
     }
 
     public int extensions() {
@@ -341,7 +342,11 @@ public final class LabelOrder {
         }
         for (int a = 0; a < MOST_POINTS; a++) {
             for (int b = 0; b < MOST_POINTS; b++) {
-                if (troubleOf(a, b) == 0 && !isLexed(a, b)) {
+                if (troubleOf(a, b) != 0) {
+                    continue;
+                }
+                list.fill(now, a, b);
+                if (!list.isLexed()) {
                     return 10 * a + b;
                 }
             }
@@ -576,11 +581,6 @@ public final class LabelOrder {
         return bad == 0 && a == b ? IMPOSSIBLE : bad;
     }
 
-    private boolean isLexed(int a, int b) {
-        list.fill(now, a, b);
-        return list.rising() == 1 && list.hasChain(0) && list.rows[0].isRising();
-    }
-
     /**
      * Of each interval all chains are of one length. It is enough that each edge over a goes up by one
      * height over a: then each chain from a to b has as many steps as b is high.
@@ -663,8 +663,11 @@ public final class LabelOrder {
 
         /** Puts a below b, two points that are there, b not below a; what follows from it is put, too. */
         void put(int a, int b) {
-            int low = atMost(a);
-            int high = atLeast(b);
+            if (!has(a) || !has(b)) {
+                return;
+            }
+            int low = under[a] | 1 << a;
+            int high = above[b] | 1 << b;
             for (int x = 0; x < MOST_POINTS; x++) {
                 if (isIn(low, x)) {
                     above[x] |= high;
@@ -690,12 +693,14 @@ public final class LabelOrder {
         }
 
         int tagOf(int a, int b) {
-            return has(a) && has(b) ? tags[a * MOST_POINTS + b] : 0;
+            int i = a * MOST_POINTS + b;
+            return i >= 0 && i < tags.length ? tags[i] : 0;
         }
 
         void setTag(int a, int b, int v) {
-            if (has(a) && has(b)) {
-                tags[a * MOST_POINTS + b] = v;
+            int i = a * MOST_POINTS + b;
+            if (i >= 0 && i < tags.length) {
+                tags[i] = v;
             }
         }
 
@@ -801,7 +806,7 @@ public final class LabelOrder {
 
         boolean isRow(int set) {
             for (int x = 0; x < MOST_POINTS; x++) {
-                if (isIn(set, x) && (set & ~atLeast(x) & ~atMost(x)) != 0) {
+                if (isIn(set, x) && (set & ~(above[x] | under[x] | 1 << x)) != 0) {
                     return false;
                 }
             }
@@ -832,33 +837,28 @@ public final class LabelOrder {
             return NONE;
         }
 
-        /** The most points of a set of which none is below another; each level has a point fewer. */
-        int widest(int open) {
-            int x = firstOf(open);
-            if (x == NONE) {
+        /** The most points of a set, from x on, of which none is below another; x is the depth. */
+        int widest(int open, int x) {
+            if (x >= MOST_POINTS) {
                 return 0;
             }
-            int rest = open & ~(1 << x);
-            return Math.max(widest(rest), 1 + widest(rest & ~above[x] & ~under[x]));
+            int most = widest(open, x + 1);
+            if (isIn(open, x)) {
+                most = Math.max(most, 1 + widest(open & ~above[x] & ~under[x], x + 1));
+            }
+            return most;
         }
 
-        /** How many sets in a set have no point below another; each level has a point fewer. */
-        int antichains(int open) {
-            int x = firstOf(open);
-            if (x == NONE) {
+        /** How many sets of points of a set, from x on, have none below another; x is the depth. */
+        int antichains(int open, int x) {
+            if (x >= MOST_POINTS) {
                 return 1;
             }
-            int rest = open & ~(1 << x);
-            return antichains(rest) + antichains(rest & ~above[x] & ~under[x]);
-        }
-
-        private static int firstOf(int set) {
-            for (int x = 0; x < MOST_POINTS; x++) {
-                if (isIn(set, x)) {
-                    return x;
-                }
+            int many = antichains(open, x + 1);
+            if (isIn(open, x)) {
+                many += antichains(open & ~above[x] & ~under[x], x + 1);
             }
-            return NONE;
+            return many;
         }
 
         int leastIrreducible(int left) {
@@ -909,7 +909,7 @@ public final class LabelOrder {
     private static final class Reader {
         private final char[] signs = new char[MOST_SIGNS];
         int size;
-        /** What the tape tells; whole only when readTape() answers no NONE. */
+        /** What the tape tells; whole only when readLines() does not answer NONE. */
         final Poset draft = new Poset();
         int faultCode;
         int faultPlace = NONE;
@@ -939,19 +939,13 @@ public final class LabelOrder {
             return true;
         }
 
-        /** How many lines the tape tells, NONE if it has a fault; it is empty then. */
-        int readTape() {
+        /** How many lines the tape tells, NONE if it has a fault. */
+        int readLines() {
             at = 0;
             faultCode = 0;
             faultPlace = NONE;
             ruleTold = false;
             draft.begin(0);
-            int lines = readLines();
-            size = 0;
-            return lines;
-        }
-
-        private int readLines() {
             for (int lines = 1; lines <= MOST_SIGNS; lines++) {
                 nextToken();
                 if (!readLine(lines == 1)) {
@@ -1244,6 +1238,10 @@ public final class LabelOrder {
 
         int rising() {
             return withFalls(0);
+        }
+
+        boolean isLexed() {
+            return rising() == 1 && rows[0].isRising();
         }
 
         int descending() {
