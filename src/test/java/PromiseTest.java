@@ -260,6 +260,12 @@ public final class PromiseTest {
         faulty("points 3 rule 1", 1, 9);
         faulty("pointsrule 3", 1, 0);
         faulty("point 3", 1, 0);
+        faulty("pointsz 3", 1, 0);
+        faulty("apoints 3", 1, 0);
+        faulty("points`3", 1, 6);
+        faulty("points{3", 1, 6);
+        faulty("points/3", 1, 6);
+        faulty("points 3:", 1, 8);
         faulty("Points 3", 1, 0);
         faulty("points 3;0", 1, 10);
         faulty("points 3;0 1", 1, 11);
@@ -1059,6 +1065,7 @@ public final class PromiseTest {
         due("selves", made(PENTAGON).selves(), 1);
         due("selves", made("points 8;0<1;2<3;4<5;6<7").selves(), 24);
         due("selves", made("points 6;0<3;0<4;1<4;1<5;2<5;2<3").selves(), 6);
+        due("no two points go to one place", made("points 7;0<2;1<2;3<5;4<5;4<6").selves(), 2);
         LabelOrder x = made(CUBE);
         x.drop(0);
         x.drop(1);
@@ -1087,6 +1094,11 @@ public final class PromiseTest {
         due("as many points", x.like(1), 0);
         x.relate(2, 3);
         due("other points, like", x.like(1), 1);
+        LabelOrder five = made("points 5;0<2;1<2");
+        five.relate(1, 3);
+        five.keep(0);
+        five.undo();
+        due("no two points go to one place", five.like(0), 0);
         LabelOrder six = made("points 6;0<3;0<4;1<4;1<5;2<5;2<3");
         six.keep(0);
         six.relate(0, 5);
