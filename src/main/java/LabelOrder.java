@@ -723,28 +723,19 @@ public final class LabelOrder {
 
         /** What covers x, if there were just the points of a set. */
         int coverers(int x, int within) {
-            if (!has(x)) {
-                return 0;
-            }
-            int open = above[x] & within;
-            int found = 0;
-            for (int y = 0; y < MOST_POINTS; y++) {
-                if (isIn(open, y) && (open & under[y]) == 0) {
-                    found |= 1 << y;
-                }
-            }
-            return found;
+            return has(x) ? endsOf(above[x] & within, under) : 0;
         }
 
         /** What x covers, if there were just the points of a set. */
         int covered(int x, int within) {
-            if (!has(x)) {
-                return 0;
-            }
-            int open = under[x] & within;
+            return has(x) ? endsOf(under[x] & within, above) : 0;
+        }
+
+        /** The points of a set that have no other one of it on their side. */
+        private static int endsOf(int set, int[] side) {
             int found = 0;
-            for (int y = 0; y < MOST_POINTS; y++) {
-                if (isIn(open, y) && (open & above[y]) == 0) {
+            for (int y = 0; y < MOST_POINTS && y < side.length; y++) {
+                if (isIn(set, y) && (set & side[y]) == 0) {
                     found |= 1 << y;
                 }
             }
