@@ -146,26 +146,13 @@ public final class FaceTest {
         }
     }
 
-    private static LabelOrder made(String text) {
-        LabelOrder x = new LabelOrder();
-        for (int i = 0; i < text.length(); i += 4) {
-            int v = 0;
-            for (int k = 0; k < 4; k++) {
-                v = v << 8 | (i + k < text.length() ? text.charAt(i + k) : ' ');
-            }
-            x.sign(v);
-        }
-        check(x.order() > 0, "no order: " + text);
-        return x;
-    }
-
     private static void anyArguments() throws Exception {
         int[] odd = {Integer.MIN_VALUE, Integer.MIN_VALUE + 1, -512, -33, -32, -31, -9, -2, -1, 0, 1, 2, 3, 7, 8, 9, 10,
             16, 31, 32, 33, 63, 64, 80, 81, 99, 100, 255, 510, 511, 512, 513, 999, 1000, 1001, 1 << 30,
             Integer.MAX_VALUE - 1, Integer.MAX_VALUE};
         Random random = new Random(7);
         for (int run = 0; run < 400; run++) {
-            LabelOrder x = run % 4 == 0 ? new LabelOrder() : made("points 9;0<1<4<6<8;0<2<4<7<8;0<3<4;1<5<6;2<5<7;3<5");
+            LabelOrder x = run % 4 == 0 ? new LabelOrder() : Cases.made("points 9;0<1<4<6<8;0<2<4<7<8;0<3<4;1<5<6;2<5<7;3<5");
             for (int call = 0; call < 400; call++) {
                 Method m = Arrays.stream(LabelOrder.class.getMethods())
                         .filter(p -> p.getDeclaringClass() == LabelOrder.class).toArray(Method[]::new)[random.nextInt(44)];
@@ -189,7 +176,7 @@ public final class FaceTest {
         com.sun.management.ThreadMXBean bean =
                 (com.sun.management.ThreadMXBean) java.lang.management.ManagementFactory.getThreadMXBean();
         long id = Thread.currentThread().getId();
-        LabelOrder x = made("points 9;0<1<4<6<8;0<2<4<7<8;0<3<4;1<5<6;2<5<7;3<5");
+        LabelOrder x = Cases.made("points 9;0<1<4<6<8;0<2<4<7<8;0<3<4;1<5<6;2<5<7;3<5");
         // The first turns load what the measuring itself makes.
         long made = 0;
         for (int turn = 0; turn < 3; turn++) {

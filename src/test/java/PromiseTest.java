@@ -1,89 +1,6 @@
-import java.util.NoSuchElementException;
-
 /** Each promise by hand: ordinary inputs, the edges that the document names, and wrong inputs. */
-public final class PromiseTest {
-    private static final int MIN = Integer.MIN_VALUE;
-    private static final int MAX = Integer.MAX_VALUE;
+public final class PromiseTest extends Cases {
     private static final int[] ODD = {MIN, -3, -2, -1, 9, 10, 31, 32, 33, 512, MAX};
-
-    /** Two points, each over 0 and under 3, with labels that rise on one side and fall on the other. */
-    private static final String SQUARE =
-            "points 4;0 < 1 < 3;0 < 2 < 3;label 0 1 1;label 0 2 2;label 1 3 2;label 2 3 1";
-    /** Three steps on one side, two on the other. */
-    private static final String PENTAGON = "points 5;0<1<2<4;0<3<4";
-    private static final String DIAMOND = "points 5;0<1<4;0<2<4;0<3<4";
-    private static final String CUBE =
-            "points 8;0<1<3<7;0<2<3;0<4<5<7;1<5;2<6<7;4<6;label 0 1 1;label 0 2 2;label 0 4 3;label 1 3 2;label 1 5 3;"
-            + "label 2 3 1;label 2 6 3;label 4 5 1;label 4 6 2;label 3 7 3;label 5 7 2;label 6 7 1";
-    /** Levels of 1, 3, 2, 2, 1 points, all of one below all of the next: twelve chains. */
-    private static final String TWELVE =
-            "points 9;0<1<4<6<8;0<2<4<7<8;0<3<4;1<5<6;2<5<7;3<5;rule 1";
-    private static final String LINE9 = "points 9;0<1<2<3<4<5<6<7<8";
-    /** Two points under two points: no join, no meet. */
-    private static final String CROWN = "points 4;0<2;0<3;1<2;1<3";
-
-    private static int promise = 0;
-    private static int wrong = 0;
-    private static int checks = 0;
-
-    private static void due(String call, long got, long want) {
-        checks++;
-        if (got != want) {
-            wrong++;
-            System.out.println("promise " + promise + ": " + call + " answered " + got + ", due is " + want);
-        }
-    }
-
-    private static void due(String call, boolean got, boolean want) {
-        due(call, got ? 1 : 0, want ? 1 : 0);
-    }
-
-    private static void tell(LabelOrder x, String text) {
-        int from = x.count(6);
-        for (int i = 0; i < text.length(); i += 4) {
-            int v = 0;
-            for (int k = 0; k < 4; k++) {
-                v = v << 8 | (i + k < text.length() ? text.charAt(i + k) : ' ');
-            }
-            x.sign(v);
-        }
-        x.end(from + text.length());
-    }
-
-    private static LabelOrder made(String text) {
-        LabelOrder x = new LabelOrder();
-        tell(x, text);
-        if (x.order() < 1) {
-            due("order of " + text + ", fault " + x.fault(0) + " at " + x.fault(1), 0, 1);
-        }
-        return x;
-    }
-
-    private static void faulty(String text, int code, int place) {
-        LabelOrder x = new LabelOrder();
-        tell(x, text);
-        due("order '" + text + "'", x.order(), -1);
-        due("fault(0) of '" + text + "'", x.fault(0), code);
-        due("fault(1) of '" + text + "'", x.fault(1), place);
-        due("count(6) behind '" + text + "'", x.count(6), 0);
-    }
-
-    private static void fine(String text, int lines) {
-        LabelOrder x = new LabelOrder();
-        tell(x, text);
-        due("order '" + text + "'", x.order(), lines);
-        due("fault(0) of '" + text + "'", x.fault(0), 0);
-        due("fault(1) of '" + text + "'", x.fault(1), -1);
-    }
-
-    private static boolean throwsOf(LabelOrder x, int p, int what) {
-        try {
-            x.of(p, what);
-            return false;
-        } catch (NoSuchElementException e) {
-            return true;
-        }
-    }
 
     public static void main(String[] args) {
         newObject();
@@ -107,14 +24,11 @@ public final class PromiseTest {
         takenAway();
         selves();
         counts();
-        System.out.println(checks + " checks, " + wrong + " wrong");
-        if (wrong != 0) {
-            System.exit(1);
-        }
+        end();
     }
 
     private static void newObject() {
-        promise = 1;
+        promise(1);
         LabelOrder x = new LabelOrder();
         due("NONE", LabelOrder.NONE, -1);
         for (int what = 0; what <= 6; what++) {
@@ -163,7 +77,7 @@ public final class PromiseTest {
     }
 
     private static void tape() {
-        promise = 2;
+        promise(2);
         LabelOrder x = new LabelOrder();
         due("sign", x.sign('p' << 24 | 'o' << 16 | 'i' << 8 | 'n'), 4);
         due("sign", x.sign('t' << 24 | 's' << 16 | '1' << 8 | ' '), 8);
@@ -179,7 +93,7 @@ public final class PromiseTest {
         due("end(396)", x.end(396), true);
         due("sign: 400", x.sign(0), 400);
 
-        promise = 3;
+        promise(3);
         x = new LabelOrder();
         due("end(0) of none", x.end(0), true);
         due("end(1) of none", x.end(1), false);
@@ -197,7 +111,7 @@ public final class PromiseTest {
     }
 
     private static void order() {
-        promise = 4;
+        promise(4);
         fine("points 1", 1);
         fine("points 9", 1);
         fine("points 09;rule 03;00<01;label 00 01 07", 4);
@@ -232,7 +146,7 @@ public final class PromiseTest {
     }
 
     private static void faults() {
-        promise = 5;
+        promise(5);
         LabelOrder x = new LabelOrder();
         due("fault(0) ahead of any", x.fault(0), 0);
         due("fault(1) ahead of any", x.fault(1), -1);
@@ -321,7 +235,7 @@ public final class PromiseTest {
     }
 
     private static void acts() {
-        promise = 6;
+        promise(6);
         LabelOrder x = made("points 5;0<1;2<3");
         due("relate", x.relate(1, 2), 6);
         due("relate again", x.relate(1, 2), 6);
@@ -342,7 +256,7 @@ public final class PromiseTest {
         due("relate(5, 0)", x.relate(5, 0), -1);
         due("relate(5, 5)", x.relate(5, 5), -1);
 
-        promise = 7;
+        promise(7);
         x = made("points 4;0<1;2<3;label 0 1 7");
         due("lift", x.lift(0, 1, 99), 7);
         due("label", x.label(0, 1), 99);
@@ -364,7 +278,7 @@ public final class PromiseTest {
             due("lift(0, " + odd + ")", x.lift(0, odd, 1), -1);
         }
 
-        promise = 8;
+        promise(8);
         x = made("points 8;rule 3;7<2;label 7 2 50");
         due("label by 3", x.label(7, 2), 5);
         due("rule", x.rule(2), 3);
@@ -378,7 +292,7 @@ public final class PromiseTest {
         due("rule -1", x.rule(-1), -1);
         due("count(5)", x.count(5), 4);
 
-        promise = 9;
+        promise(9);
         x = made("points 4;0<1<2<3");
         due("drop", x.drop(1), 3);
         due("drop again", x.drop(1), -1);
@@ -398,7 +312,7 @@ public final class PromiseTest {
     }
 
     private static void undoing() {
-        promise = 10;
+        promise(10);
         LabelOrder x = made("points 4;0<1;2<3;label 0 1 7");
         due("undo none", x.undo(), -2);
         x.relate(1, 2);
@@ -435,7 +349,7 @@ public final class PromiseTest {
     }
 
     private static void keeping() {
-        promise = 11;
+        promise(11);
         LabelOrder x = made("points 4;0<1;2<3;label 0 1 7");
         due("keep(0)", x.keep(0), true);
         due("keep(2)", x.keep(2), false);
@@ -443,7 +357,7 @@ public final class PromiseTest {
         due("keep(MAX)", x.keep(MAX), false);
         due("keep is no act", x.count(5), 0);
 
-        promise = 12;
+        promise(12);
         due("again(1): nothing kept", x.again(1), false);
         due("again(2)", x.again(2), false);
         due("again(-1)", x.again(-1), false);
@@ -480,7 +394,7 @@ public final class PromiseTest {
     }
 
     private static void points() {
-        promise = 13;
+        promise(13);
         LabelOrder x = made(PENTAGON);
         due("of(0, 0)", x.of(0, 0), 30);
         due("of(4, 0)", x.of(4, 0), 0);
@@ -502,7 +416,7 @@ public final class PromiseTest {
         due("of(1, 2)", x.of(1, 2), 16);
         due("of(4, 1)", x.of(4, 1), 11);
 
-        promise = 14;
+        promise(14);
         x = made("points 5;0<1<2<4;0<3<4;label 0 1 3;label 1 2 98;label 0 2 5;label 4 2 6");
         due("label(0, 1)", x.label(0, 1), 3);
         due("label(1, 2)", x.label(1, 2), 98);
@@ -520,7 +434,7 @@ public final class PromiseTest {
         due("label(0, 2) then", x.label(0, 2), 5);
         due("label(0, 1) then", x.label(0, 1), -1);
 
-        promise = 15;
+        promise(15);
         x = made(PENTAGON);
         int[] heights = {0, 1, 2, 1, 3};
         for (int p = 0; p < 5; p++) {
@@ -537,7 +451,7 @@ public final class PromiseTest {
     }
 
     private static void bounds() {
-        promise = 16;
+        promise(16);
         LabelOrder x = made(CROWN);
         due("join(0, 1)", x.join(0, 1), -2);
         due("join(2, 3)", x.join(2, 3), -2);
@@ -551,7 +465,7 @@ public final class PromiseTest {
         due("join(0, 3)", x.join(0, 3), -1);
         due("join of the pentagon", made(PENTAGON).join(1, 3), 4);
 
-        promise = 17;
+        promise(17);
         x = made(CROWN);
         due("meet(2, 3)", x.meet(2, 3), -2);
         due("meet(0, 1)", x.meet(0, 1), -2);
@@ -576,7 +490,7 @@ public final class PromiseTest {
     }
 
     private static void kinds() {
-        promise = 18;
+        promise(18);
         kind("points 1", 1, 1, 1, 1, 1, 1);
         kind("points 2", 0, 1, 0, 0, 0, 0);
         kind(SQUARE, 1, 1, 1, 1, 1, 0);
@@ -597,7 +511,7 @@ public final class PromiseTest {
     }
 
     private static void rows() {
-        promise = 19;
+        promise(19);
         due("width", made("points 9").width(), 9);
         due("width", made(LINE9).width(), 1);
         due("width", made(CUBE).width(), 3);
@@ -606,21 +520,21 @@ public final class PromiseTest {
         x.drop(1);
         due("width then", x.width(), 2);
 
-        promise = 20;
+        promise(20);
         due("ideals", made("points 9").ideals(), 512);
         due("ideals", made(LINE9).ideals(), 10);
         due("ideals", made(CUBE).ideals(), 20);
         due("ideals", made(CROWN).ideals(), 7);
         due("ideals", x.ideals(), 6);
 
-        promise = 21;
+        promise(21);
         due("extensions", made("points 9").extensions(), 362880);
         due("extensions", made(LINE9).extensions(), 1);
         due("extensions", made(CUBE).extensions(), 48);
         due("extensions", made(CROWN).extensions(), 4);
         due("extensions", x.extensions(), 2);
 
-        promise = 22;
+        promise(22);
         x = made("points 5;4<0;3<1;1<0");
         int[] row = {2, 3, 1, 4, 0};
         for (int i = 0; i < 5; i++) {
@@ -690,7 +604,7 @@ public final class PromiseTest {
     }
 
     private static void chains() {
-        promise = 23;
+        promise(23);
         LabelOrder x = made(CUBE);
         wrongIntervals(x);
         noInterval(x, 7, 0);
@@ -702,7 +616,7 @@ public final class PromiseTest {
         due("interval(1, 7)", x.interval(1, 7), 1 << 1 | 1 << 5 | 1 << 7);
         due("interval(1, 3)", x.interval(1, 3), -1);
 
-        promise = 24;
+        promise(24);
         x = made(CUBE);
         int[] wants = {6, 1, 1, 3, 3};
         for (int what = 0; what < 5; what++) {
@@ -727,18 +641,18 @@ public final class PromiseTest {
                 .chains(0, 8, 0), 12);
         due("one of eight steps", made(LINE9).chains(0, 8, 4), 8);
 
-        promise = 25;
+        promise(25);
         int[][] points = {{0, 1, 3, 7}, {0, 1, 5, 7}, {0, 2, 3, 7}, {0, 2, 6, 7}, {0, 4, 5, 7}, {0, 4, 6, 7}};
         int[][] labels = {{1, 2, 3}, {1, 3, 2}, {2, 1, 3}, {2, 3, 1}, {3, 1, 2}, {3, 2, 1}};
         for (int i = 0; i < 6; i++) {
             for (int k = 0; k < 4; k++) {
-                promise = 25;
+                promise(25);
                 due("point(0, 7, " + i + ", " + k + ")", x.point(0, 7, i, k), points[i][k]);
-                promise = 26;
+                promise(26);
                 due("labelOf(0, 7, " + i + ", " + k + ")", x.labelOf(0, 7, i, k), k < 3 ? labels[i][k] : -2);
             }
         }
-        promise = 25;
+        promise(25);
         due("what ends first is ahead", flat.point(0, 4, 0, 1), 3);
         LabelOrder twelve = made(TWELVE);
         due("point(0, 8, 11, 1)", twelve.point(0, 8, 11, 1), 3);
@@ -753,16 +667,16 @@ public final class PromiseTest {
         for (int odd : new int[] {MIN, -1, 6, MAX}) {
             due("point of another i", x.point(0, 7, odd, 0), -2);
             due("point of another k", x.point(0, 7, 0, odd), -2);
-            promise = 26;
+            promise(26);
             due("labelOf of another i", x.labelOf(0, 7, odd, 0), -2);
             due("labelOf of another k", x.labelOf(0, 7, 0, odd), -2);
-            promise = 27;
+            promise(27);
             due("falls of another i", x.falls(0, 7, odd), -2);
         }
-        promise = 26;
+        promise(26);
         due("labelOf(2, 2, 0, 0)", x.labelOf(2, 2, 0, 0), -2);
 
-        promise = 27;
+        promise(27);
         int[] falls = {0, 4, 2, 4, 2, 6};
         for (int i = 0; i < 6; i++) {
             due("falls(0, 7, " + i + ")", x.falls(0, 7, i), falls[i]);
@@ -771,7 +685,7 @@ public final class PromiseTest {
         due("falls of like labels", flat.falls(0, 4, 1), 0);
         due("all eight fall", made("points 9;8<7<6<5<4<3<2<1<0;rule 1").falls(8, 0, 0), 254);
 
-        promise = 28;
+        promise(28);
         due("falling(0)", x.falling(0, 7, 0), 1);
         due("falling(2)", x.falling(0, 7, 2), 2);
         due("falling(4)", x.falling(0, 7, 4), 2);
@@ -780,15 +694,15 @@ public final class PromiseTest {
         due("falling(510)", x.falling(0, 7, 510), 0);
         for (int odd : new int[] {MIN, -2, -1, 1, 3, 511, 512, 514, MAX}) {
             due("falling of another set", x.falling(0, 7, odd), -1);
-            promise = 29;
+            promise(29);
             due("flag of another set", x.flag(0, 7, odd, false), MIN);
             due("beta of another set", x.flag(0, 7, odd, true), MIN);
-            promise = 28;
+            promise(28);
         }
     }
 
     private static void flags() {
-        promise = 29;
+        promise(29);
         LabelOrder x = made(CUBE);
         int[] sets = {0, 2, 4, 6, 8, 510};
         int[] flags = {1, 3, 3, 6, 0, 0};
@@ -813,7 +727,7 @@ public final class PromiseTest {
     }
 
     private static void lexed() {
-        promise = 30;
+        promise(30);
         due("lexed cube", made(CUBE).lexed(), -1);
         due("lexed square", made(SQUARE).lexed(), -1);
         LabelOrder x = made(PENTAGON);
@@ -835,7 +749,7 @@ public final class PromiseTest {
     }
 
     private static void moebius() {
-        promise = 31;
+        promise(31);
         due("moebius cube", made(CUBE).moebius(0, 7), -1);
         due("moebius of one", made(CUBE).moebius(3, 3), 1);
         due("moebius of an edge", made(CUBE).moebius(0, 1), -1);
@@ -849,7 +763,7 @@ public final class PromiseTest {
         due("moebius then", x.moebius(0, 4), 1);
         due("moebius of a dropped one", x.moebius(0, 2), MIN);
 
-        promise = 32;
+        promise(32);
         x = made(CUBE);
         int[] many = {1, 3, 3, 1, 0};
         int[] sum = {1, -3, 3, -1, 0};
@@ -875,7 +789,7 @@ public final class PromiseTest {
     }
 
     private static void zeta() {
-        promise = 33;
+        promise(33);
         LabelOrder x = made(CUBE);
         due("zeta(0, 7, 1)", x.zeta(0, 7, 1), 1);
         due("zeta(0, 7, 2)", x.zeta(0, 7, 2), 8);
@@ -903,7 +817,7 @@ public final class PromiseTest {
         due("the last that a long can hold", last > 800 && last < 1000, true);
         due("zeta(0, 7, 1000) of the line", x.zeta(0, 7, 1000), 202614233457493000L);
 
-        promise = 34;
+        promise(34);
         x = made(CUBE);
         int[] steps = {0, 1, 6, 6, 0, 0, 0, 0, 0, 0};
         for (int k = 0; k < steps.length; k++) {
@@ -919,7 +833,7 @@ public final class PromiseTest {
     }
 
     private static void faces() {
-        promise = 35;
+        promise(35);
         LabelOrder x = made(CUBE);
         int[] faces = {1, 6, 6, 0};
         for (int d = -1; d < 3; d++) {
@@ -934,7 +848,7 @@ public final class PromiseTest {
         due("faces(0, 8, 6)", made(LINE9).faces(0, 8, 6), 1);
         due("faces(0, 8, 7)", made(LINE9).faces(0, 8, 7), 0);
 
-        promise = 36;
+        promise(36);
         int[] primes = {2, 3, 5, 7};
         for (int p : primes) {
             int[] cube = {0, 0, 1, 0};
@@ -963,7 +877,7 @@ public final class PromiseTest {
     }
 
     private static void shells() {
-        promise = 37;
+        promise(37);
         LabelOrder x = made(CUBE);
         due("shelled cube", x.shelled(0, 7), -1);
         due("shelled(2, 2)", x.shelled(2, 2), -2);
@@ -980,7 +894,7 @@ public final class PromiseTest {
         flat.lift(0, 3, 1);
         due("the longer ahead of the shorter: so", flat.shelled(0, 4), -1);
 
-        promise = 38;
+        promise(38);
         x = made(CUBE);
         int[] creases = {0, 1 << 5, 1 << 2, 1 << 6, 1 << 4, 1 << 4 | 1 << 6};
         for (int i = 0; i < 6; i++) {
@@ -993,7 +907,7 @@ public final class PromiseTest {
         due("crease(0, 1, 0)", x.crease(0, 1, 0), 0);
         due("crease of no side", apart.crease(0, 5, 1), 0);
 
-        promise = 39;
+        promise(39);
         int[] creased = {1, 4, 1, 0};
         for (int k = 0; k < 4; k++) {
             due("creased(0, 7, " + k + ")", x.creased(0, 7, k), creased[k]);
@@ -1005,7 +919,7 @@ public final class PromiseTest {
     }
 
     private static void takenAway() {
-        promise = 40;
+        promise(40);
         LabelOrder x = made(DIAMOND);
         due("without(0, 4, 2)", x.without(0, 4, 2), 1);
         due("without(0, 4, 0)", x.without(0, 4, 0), MIN);
@@ -1024,7 +938,7 @@ public final class PromiseTest {
         due("not inner", made(CUBE).without(0, 3, 4), MIN);
         due("of the pentagon", made(PENTAGON).without(0, 4, 1), 1);
 
-        promise = 41;
+        promise(41);
         due("counted diamond", made(DIAMOND).counted(0, 4), 14);
         due("counted pentagon", made(PENTAGON).counted(0, 4), 8);
         due("counted line", made(LINE9).counted(0, 8), 0);
@@ -1033,7 +947,7 @@ public final class PromiseTest {
         due("counted of one", line.counted(1, 1), 0);
         due("counted dropped", x.counted(0, 2), -1);
 
-        promise = 42;
+        promise(42);
         x = made(SQUARE);
         int[] taken = {1, 0, 2, -2, -2};
         for (int i = 0; i < taken.length; i++) {
@@ -1056,7 +970,7 @@ public final class PromiseTest {
     }
 
     private static void selves() {
-        promise = 43;
+        promise(43);
         due("selves", made("points 1").selves(), 1);
         due("selves", made("points 9").selves(), 362880);
         due("selves", made(LINE9).selves(), 1);
@@ -1071,7 +985,7 @@ public final class PromiseTest {
         x.drop(1);
         due("selves then", x.selves(), 2);
 
-        promise = 44;
+        promise(44);
         x = made(PENTAGON);
         due("like(0): nothing kept", x.like(0), -1);
         x.keep(0);
@@ -1110,7 +1024,7 @@ public final class PromiseTest {
     }
 
     private static void counts() {
-        promise = 45;
+        promise(45);
         LabelOrder x = made(PENTAGON + ";rule 3");
         int[] wants = {5, 31, 8, 5, 3, 0, 0};
         for (int what = 0; what < 7; what++) {
