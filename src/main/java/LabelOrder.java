@@ -235,12 +235,12 @@ public final class LabelOrder {
     }
 
     public int width() {
-        return isOrder() ? now.widest(now.there, 0) : NONE;
+        return isOrder() ? now.widest() : NONE;
     }
 
     public int ideals() {
         // Each such set is told by its highest points, of which none is below another one.
-        return isOrder() ? now.antichains(now.there, 0) : NONE;
+        return isOrder() ? now.spreadSets() : NONE;
     }
 
     public int extensions() {
@@ -828,26 +828,35 @@ public final class LabelOrder {
             return NONE;
         }
 
-        /** The most points of a set, from x on, of which none is below another; x is the depth. */
-        int widest(int open, int x) {
-            if (x >= MOST_POINTS) {
-                return 0;
+        /** Whether all of a set are points that are there, and none is below another. */
+        private boolean isSpread(int set) {
+            if ((set & ~there) != 0) {
+                return false;
             }
-            int most = widest(open, x + 1);
-            if (isIn(open, x)) {
-                most = Math.max(most, 1 + widest(open & ~above[x] & ~under[x], x + 1));
+            for (int x = 0; x < MOST_POINTS; x++) {
+                if (isIn(set, x) && (set & above[x]) != 0) {
+                    return false;
+                }
+            }
+            return true;
+        }
+
+        int widest() {
+            int most = 0;
+            for (int set = 0; set < SETS; set++) {
+                if (isSpread(set)) {
+                    most = Math.max(most, Integer.bitCount(set));
+                }
             }
             return most;
         }
 
-        /** How many sets of points of a set, from x on, have none below another; x is the depth. */
-        int antichains(int open, int x) {
-            if (x >= MOST_POINTS) {
-                return 1;
-            }
-            int many = antichains(open, x + 1);
-            if (isIn(open, x)) {
-                many += antichains(open & ~above[x] & ~under[x], x + 1);
+        int spreadSets() {
+            int many = 0;
+            for (int set = 0; set < SETS; set++) {
+                if (isSpread(set)) {
+                    many++;
+                }
             }
             return many;
         }

@@ -340,6 +340,13 @@ public final class ActsBoundaryTest extends Cases {
         due("keep(0)", x.keep(0), true);
         due("keep(0) again", x.keep(0), true);
         due("no act yet", x.count(5), 8);
+        x = made("points 1;rule 2");
+        due("keep(0) of one point", x.keep(0), true);
+        due("keep(1) of one point", x.keep(1), true);
+        x.rule(1);
+        due("again(0) of one point", x.again(0), true);
+        due("count(4)", x.count(4), 2);
+        due("like(1) of one point", x.like(1), 1);
     }
 
     private static void keepRefused() {

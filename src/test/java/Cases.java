@@ -153,7 +153,7 @@ abstract class Cases {
         for (List<String> held : HELD.values()) {
             cases += held.size();
         }
-        System.out.println(cases + " cases, " + checks + " checks, " + wrong + " wrong");
+        System.out.println((cases > 0 ? cases + " cases, " : "") + checks + " checks, " + wrong + " wrong");
         if (wrong != 0) {
             System.exit(1);
         }

@@ -106,6 +106,14 @@ public final class ChainsBoundaryTest extends Cases {
                 due("of like ones by points: " + i, x.point(8, 0, i, k), seconds[i][k - 1]);
             }
         }
+        // Two CHAINS of three LABELS are asked for first: what ends earlier has nothing of them behind its end.
+        String more = ";4<5<7<8;4<6<7;label 4 5 99;label 4 6 99;label 5 7 99;label 6 7 99;label 7 8 99";
+        x = made("points 9;0<1<2<4;0<3<4" + more);
+        due("two", x.chains(4, 8, 0), 2);
+        due("what ends first is ahead, of more points", x.point(0, 4, 0, 1), 3);
+        x = made("points 9;0<1<4;0<2<3<4" + more);
+        due("two", x.chains(4, 8, 0), 2);
+        due("what ends first is ahead, of fewer points", x.point(0, 4, 0, 1), 1);
     }
 
     private static void risingAndFalling() {
@@ -190,6 +198,8 @@ public final class ChainsBoundaryTest extends Cases {
         x = made("points 6;0<1<2<5;0<3<5;0<4<5;3<2");
         due("of one height many", x.flag(0, 5, 2, false), 3);
         due("which make a ROW", x.flag(0, 5, 6, false), 2);
+        x = made("points 4;3<0<2;3<1<2");
+        due("point 0 is INNER", x.flag(3, 2, 2, false), 2);
         x = made("points 5;0<1<2<4;0<3<4");
         x.relate(1, 3);
         due("HEIGHT is the most steps", x.flag(0, 4, 4, false), 2);
@@ -262,6 +272,8 @@ public final class ChainsBoundaryTest extends Cases {
         due("the longest of all", x.chains(0, 8, 3), 8);
         due("the shortest of one", x.chains(0, 8, 4), 8);
         due("the most CHAINS", made(TWELVE).chains(0, 8, 0), 12);
+        due("the longest of the most", made(TWELVE).chains(0, 8, 3), 4);
+        due("the shortest of the most", made(TWELVE).chains(0, 8, 4), 4);
         due("the most CHAINS", made(TURNED).chains(8, 0, 0), 12);
         due("the most that rise", made(TURNED).chains(8, 0, 1), 12);
         due("none falls", made(TURNED).chains(8, 0, 2), 0);
@@ -271,6 +283,10 @@ public final class ChainsBoundaryTest extends Cases {
         x = made("points 9;0<1<8;0<2<8;0<3<8;0<4<8;0<5<8;0<6<8;0<7<8");
         due("of seven", x.chains(0, 8, 0), 7);
         due("the longest of seven", x.chains(0, 8, 3), 2);
+        x = made("points 7;0<1<2<4;0<3<2;4<5<6");
+        due("of the longer ones", x.chains(0, 4, 0), 2);
+        due("the longest of a shorter one behind it", x.chains(4, 6, 3), 2);
+        due("the shortest of a longer one behind it", x.chains(0, 4, 4), 3);
     }
 
     private static void chainsRefused() {

@@ -146,13 +146,19 @@ public final class FaceTest {
         }
     }
 
+    private static LabelOrder twelveChains() {
+        LabelOrder x = Cases.made(Cases.TWELVE);
+        check(x.count(0) == 9, "no order");
+        return x;
+    }
+
     private static void anyArguments() throws Exception {
         int[] odd = {Integer.MIN_VALUE, Integer.MIN_VALUE + 1, -512, -33, -32, -31, -9, -2, -1, 0, 1, 2, 3, 7, 8, 9, 10,
             16, 31, 32, 33, 63, 64, 80, 81, 99, 100, 255, 510, 511, 512, 513, 999, 1000, 1001, 1 << 30,
             Integer.MAX_VALUE - 1, Integer.MAX_VALUE};
         Random random = new Random(7);
         for (int run = 0; run < 400; run++) {
-            LabelOrder x = run % 4 == 0 ? new LabelOrder() : Cases.made("points 9;0<1<4<6<8;0<2<4<7<8;0<3<4;1<5<6;2<5<7;3<5");
+            LabelOrder x = run % 4 == 0 ? new LabelOrder() : twelveChains();
             for (int call = 0; call < 400; call++) {
                 Method m = Arrays.stream(LabelOrder.class.getMethods())
                         .filter(p -> p.getDeclaringClass() == LabelOrder.class).toArray(Method[]::new)[random.nextInt(44)];
@@ -176,7 +182,7 @@ public final class FaceTest {
         com.sun.management.ThreadMXBean bean =
                 (com.sun.management.ThreadMXBean) java.lang.management.ManagementFactory.getThreadMXBean();
         long id = Thread.currentThread().getId();
-        LabelOrder x = Cases.made("points 9;0<1<4<6<8;0<2<4<7<8;0<3<4;1<5<6;2<5<7;3<5");
+        LabelOrder x = twelveChains();
         // The first turns load what the measuring itself makes.
         long made = 0;
         for (int turn = 0; turn < 3; turn++) {

@@ -114,6 +114,7 @@ public final class NumbersBoundaryTest extends Cases {
         holesOf(CUBE, 0, 7, new int[] {0, 0, 1});
         holesOf("points 9;0<1<5<8;0<2<5;0<3<5;0<4<5;1<6<8;2<6;3<6;4<6;1<7<8;2<7;3<7;4<7", 0, 8, new int[] {0, 0, 6});
         holesOf(APART, 0, 5, new int[] {0, 1});
+        holesOf("points 3;1<0<2", 1, 2, new int[] {0});
         // Numbers run against the order, so that signs by numbers and signs by what is lowest go apart.
         holesOf("points 9;8<7<4<2<0;8<6<4<1<0;8<5<4;7<3<2;6<3<1;5<3", 8, 0, new int[] {0, 0, 0, 2});
         holesOf("points 8;3<7<2<5;3<0<2;3<6<4<5;7<4;0<1<5;6<1", 3, 5, new int[] {0, 0, 1});
@@ -151,6 +152,9 @@ public final class NumbersBoundaryTest extends Cases {
         x.lift(0, 3, 1);
         due("the shorter one behind", x.crease(0, 4, 1), 8);
         due("three", made(TWELVE).crease(0, 8, 11), 1 << 3 | 1 << 5 | 1 << 7);
+        x = made("points 4;3<0<2;3<1<2;label 3 0 5");
+        due("point 0", x.crease(3, 2, 1), 1);
+        due("of the first none", x.crease(3, 2, 0), 0);
     }
 
     // ---- promises 31 and 32

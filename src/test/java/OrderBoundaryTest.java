@@ -238,6 +238,10 @@ public final class OrderBoundaryTest extends Cases {
         due("of ROWS from anywhere", x.height(4), 1);
         x.drop(2);
         due("then", x.height(5), 1);
+        x = made("points 2;1<0");
+        due("over one", x.height(0), 1);
+        x.drop(1);
+        due("over none then", x.height(0), 0);
     }
 
     private static void heightNone() {
@@ -359,6 +363,8 @@ public final class OrderBoundaryTest extends Cases {
         kind(1, "points 5;0<1<2<4;0<3", 1);
         kind(1, "points 9;4<5<6<8;4<7<8", 0);
         kind(1, "points 9;8<7<6<4;8<5<4", 0);
+        kind(1, "points 5;1<0<4;1<2<3<4", 0);
+        kind(1, "points 5;1<2<3<0;1<4<0", 0);
         kind(1, "points 6;0<1<2;0<3<4<5", 1);
         LabelOrder x = made(PENTAGON);
         x.drop(1);
@@ -405,6 +411,9 @@ public final class OrderBoundaryTest extends Cases {
         kind(4, PENTAGON, 0);
         kind(4, CROWN, 0);
         kind(4, "points 9;8<7<6<4;8<5<4", 0);
+        kind(4, "points 5;1<2<0<4;1<3<4", 0);
+        kind(4, "points 5;1<0<2<4;1<3<4", 0);
+        kind(4, "points 5;1<2<3<4;1<0<4", 0);
         LabelOrder x = made(PENTAGON);
         x.drop(2);
         due("of those that are there", x.kind(4), 1);

@@ -74,6 +74,7 @@ public final class TakenBoundaryTest extends Cases {
         due("one way round alone", made("points 2;0<1").selves(), 1);
         due("the ring turns and does not turn over, nor upside down", made(RING).selves(), 6);
         due("upside down is none", made("points 4;0<1;2<3").selves(), 2);
+        due("no two go to one place", made("points 7;0<2;1<2;3<5;4<5;4<6").selves(), 2);
     }
 
     // ---- promise 40
@@ -278,6 +279,17 @@ public final class TakenBoundaryTest extends Cases {
         x.undo();
         x.drop(1);
         due("upside down is unlike", x.like(0), 0);
+        x = made("points 5;0<2;1<2");
+        x.relate(1, 3);
+        x.keep(0);
+        x.undo();
+        due("no two go to one place", x.like(0), 0);
+        x = made("points 5");
+        x.drop(0);
+        x.drop(2);
+        x.keep(0);
+        x.relate(1, 3);
+        due("points behind those that are DROPPED", x.like(0), 0);
     }
 
     private static void likeRefused() {

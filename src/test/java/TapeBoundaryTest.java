@@ -203,6 +203,13 @@ public final class TapeBoundaryTest extends Cases {
         due("lift: no label is told", x.lift(0, 1, 1), 0);
         due("order() of the empty tape", x.order(), -1);
         due("count(0) stays", x.count(0), 2);
+        x = made("points 9;0<1<2;0<3");
+        tell(x, "points 9;4<5");
+        due("order() in place of another", x.order(), 2);
+        for (int p = 0; p <= 8; p++) {
+            due("of(" + p + ", 0)", x.of(p, 0), p == 4 ? 32 : 0);
+            due("of(" + p + ", 1)", x.of(p, 1), p == 5 ? 16 : 0);
+        }
     }
 
     private static void orderFault() {
@@ -338,6 +345,18 @@ public final class TapeBoundaryTest extends Cases {
         due("count(4) without", made("points 2").count(4), 0);
         due("as the last LINE", made("points 2;0<1;rule 2").count(4), 2);
         faulty("points 2;rule 0;rule 0", 3, 16);
+        LabelOrder x = made("points 2;rule 3");
+        tell(x, "points 2;rule 1");
+        due("once in each text", x.order(), 2);
+        due("count(4)", x.count(4), 1);
+        tell(x, "points 2;rule 2;0<0");
+        due("a FAULT behind a rule", x.order(), -1);
+        tell(x, "points 2;rule 2");
+        due("once in each text", x.order(), 2);
+        due("count(4)", x.count(4), 2);
+        tell(x, "points 2");
+        due("0 without, whatever the text ahead told", x.order(), 1);
+        due("count(4)", x.count(4), 0);
     }
 
     private static void lessLine() {
