@@ -1663,9 +1663,13 @@ public final class LabelOrder {
     /** Searches for ways in which the points of one order take the places of another's. */
     private static final class Matcher {
         private final int[] image = new int[MOST_POINTS];
+        /** The points in the turn in which they look for places, and how many they are. */
+        private final int[] turns = new int[MOST_POINTS];
+        private int size;
 
         boolean isLike(Poset from, Poset to) {
-            return Integer.bitCount(from.there) == Integer.bitCount(to.there) && canFinish(from, to, 0, 0);
+            lineUp(from);
+            return size == Integer.bitCount(to.there) && canFinish(from, to, 0, 0);
         }
 
         /**
@@ -1673,24 +1677,54 @@ public final class LabelOrder {
          * they are, by where x can go, are as many for each such place; so the numbers of places multiply.
          */
         int selvesOf(Poset order) {
+            lineUp(order);
             int total = 1;
             int used = 0;
-            for (int x = 0; x < MOST_POINTS; x++) {
-                if (order.has(x)) {
-                    total *= placesFor(order, x, used);
-                    image[x] = x;
-                    used |= 1 << x;
-                }
+            for (int i = 0; i < size && i < MOST_POINTS; i++) {
+                int x = turns[i];
+                total *= placesFor(order, i, used);
+                image[i] = x;
+                used |= 1 << x;
             }
             return total;
         }
 
-        private int placesFor(Poset order, int x, int used) {
+        /** Each point comes behind those that it is related to, as far as can be: so a wrong place shows early. */
+        private void lineUp(Poset order) {
+            int open = order.there;
+            size = 0;
+            for (int i = 0; i < MOST_POINTS; i++) {
+                int x = nearest(order, open);
+                if (x != NONE) {
+                    turns[size] = x;
+                    size++;
+                    open &= ~(1 << x);
+                }
+            }
+        }
+
+        /** The point of a set that is related to most of those that are not in it. */
+        private static int nearest(Poset order, int open) {
+            int found = NONE;
+            int most = NONE;
+            for (int x = 0; x < MOST_POINTS; x++) {
+                if (isIn(open, x)) {
+                    int related = Integer.bitCount((order.above[x] | order.under[x]) & ~open);
+                    if (related > most) {
+                        most = related;
+                        found = x;
+                    }
+                }
+            }
+            return found;
+        }
+
+        private int placesFor(Poset order, int i, int used) {
             int many = 0;
             for (int y = 0; y < MOST_POINTS; y++) {
-                if (fits(order, x, order, y, used)) {
-                    image[x] = y;
-                    if (canFinish(order, order, x + 1, used | 1 << y)) {
+                if (fits(order, i, order, y, used)) {
+                    image[i] = y;
+                    if (canFinish(order, order, i + 1, used | 1 << y)) {
                         many++;
                     }
                 }
@@ -1698,18 +1732,15 @@ public final class LabelOrder {
             return many;
         }
 
-        /** Whether the points from x on find places, those ahead of it having theirs; x is the depth. */
-        private boolean canFinish(Poset from, Poset to, int x, int used) {
-            if (x >= MOST_POINTS) {
+        /** Whether the points from turn i on find places, those ahead of it having theirs; i is the depth. */
+        private boolean canFinish(Poset from, Poset to, int i, int used) {
+            if (i >= size || i >= MOST_POINTS) {
                 return true;
             }
-            if (!from.has(x)) {
-                return canFinish(from, to, x + 1, used);
-            }
             for (int y = 0; y < MOST_POINTS; y++) {
-                if (fits(from, x, to, y, used)) {
-                    image[x] = y;
-                    if (canFinish(from, to, x + 1, used | 1 << y)) {
+                if (fits(from, i, to, y, used)) {
+                    image[i] = y;
+                    if (canFinish(from, to, i + 1, used | 1 << y)) {
                         return true;
                     }
                 }
@@ -1717,16 +1748,17 @@ public final class LabelOrder {
             return false;
         }
 
-        private boolean fits(Poset from, int x, Poset to, int y, int used) {
+        private boolean fits(Poset from, int i, Poset to, int y, int used) {
+            int x = turns[i];
             if (!to.has(y) || isIn(used, y)
                     || Integer.bitCount(from.above[x]) != Integer.bitCount(to.above[y])
                     || Integer.bitCount(from.under[x]) != Integer.bitCount(to.under[y])) {
                 return false;
             }
-            for (int z = 0; z < x; z++) {
-                if (from.has(z)
-                        && (from.isUnder(z, x) != to.isUnder(image[z], y)
-                        || from.isUnder(x, z) != to.isUnder(y, image[z]))) {
+            for (int k = 0; k < i; k++) {
+                int z = turns[k];
+                if (from.isUnder(z, x) != to.isUnder(image[k], y)
+                        || from.isUnder(x, z) != to.isUnder(y, image[k])) {
                     return false;
                 }
             }
